@@ -36,6 +36,9 @@ public final class ClassOfMany {
     // The longest TEXT that spell() writes has 960 bytes.
     private static final int PAGE_BYTES = 1024;
 
+    // No NET that is asked for on the way is so great.
+    private static final long BEYOND_ALL = 1L << 60;
+
     private static final int BLANK = 32;
     private static final int LINE_END = 10;
 
@@ -1364,28 +1367,28 @@ public final class ClassOfMany {
         private boolean fitsInto(int k) {
             limit = k;
             Arrays.fill(groups, 0);
-            return place(0, 0);
+            return place(this, 0, 0);
         }
 
         /**
          * Places MEMBER i and all behind it, least group first. A group beyond the first empty one
          * would only be that one by another name, so it is never tried.
          */
-        private boolean place(int i, int opened) {
-            if (i >= members) {
+        private static boolean place(Splitter s, int i, int opened) {
+            if (i >= s.members) {
                 return true;
             }
-            if (!has(in, i)) {
-                return place(i + 1, opened);
+            if (!has(s.in, i)) {
+                return place(s, i + 1, opened);
             }
-            int last = Math.min(opened, limit - 1);
+            int last = Math.min(opened, s.limit - 1);
             for (int k = 0; k <= last; k++) {
-                if ((groups[k] & foes[i]) == 0) {
-                    groups[k] |= 1 << i;
-                    if (place(i + 1, Math.max(opened, k + 1))) {
+                if ((s.groups[k] & s.foes[i]) == 0) {
+                    s.groups[k] |= 1 << i;
+                    if (place(s, i + 1, Math.max(opened, k + 1))) {
                         return true;
                     }
-                    groups[k] ^= 1 << i;
+                    s.groups[k] ^= 1 << i;
                 }
             }
             return false;
@@ -1682,26 +1685,26 @@ public final class ClassOfMany {
             return MISSING;
         }
 
-        /** The same NET, if it is enough; else the least one that can be. */
+        /**
+         * The same NET, if it is enough; else the least one that can be. Who lacks something below LEAST
+         * gets on only by a POT for all CLAIMS of its SUB-CLASS; and by ROUND 1 someone must have something.
+         */
         private long nextNet(int sum) {
             if (hungry == 0) {
                 return sum;
             }
             fillPots(sum);
-            boolean someoneHas = false;
-            long soonest = Long.MAX_VALUE;
+            long soonest = BEYOND_ALL;
             for (int i = 0; i < members; i++) {
                 if (has(hungry, i)) {
-                    int sent = firstSent(i);
-                    int lack = claims[i] - sent;
+                    int lack = claims[i] - firstSent(i);
                     if (lack > 0 && lack < least) {
                         return netForPot(groupOf[i], groupClaims[groupOf[i]]);
                     }
-                    someoneHas = someoneHas || sent > 0;
                     soonest = Math.min(soonest, netForSent(i, Math.max(1, least)));
                 }
             }
-            return someoneHas ? sum : soonest;
+            return Math.max(sum, soonest);
         }
 
         private long netForSent(int i, long sent) {

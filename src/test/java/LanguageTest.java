@@ -112,7 +112,7 @@ public final class LanguageTest {
         String[] patterns = {"\\b(throw|throws|try|catch|synchronized|assert)\\b", "\\b(package|yield|var|protected)\\b",
             "\\bimport (?!java\\.util\\.Arrays;)", "\\bSystem\\.(?!arraycopy\\()", "\\w+Exact\\b",
             "\\b(Object|hashCode|Thread|Random)\\b", "while \\(true\\)", "for \\(;;\\)", "static \\{",
-            "Math\\.(?!(min|max|abs)\\()", "Arrays\\.(?!fill\\()"};
+            "Math\\.(?!(min|max|abs)\\()", "Integer\\.(?!bitCount\\()", "Long\\.", "Arrays\\.(?!fill\\()"};
         for (String pattern : patterns) {
             must(!Pattern.compile(pattern).matcher(source).find(), "4, 5, 6, 9: " + pattern);
         }

@@ -167,6 +167,7 @@ public final class PromisesTest {
                 .due(3, "member", 0, 2).due(1, "member", 0, 3);
         fresh().dueTold(0, "fund 99999;fee 50;least 999;till 99;period 99 99;channel 99 30;channel 0 1;");
         fresh().dueTold(2, "member 0 0 1;member 99 99 99;conflict 1 0;").due(2, "member", 0, 9);
+        fresh().dueTold(0, "fund 0;fee 0;least 0;").due(3, "count", 15);
         fresh().dueTold(0, "fund 00000;fee 00050;till 0;period 0 0;").due(0, "count", 4);
         fresh().dueTold(1, "channel 1 1;channel 1 1;channel 1 1;channel 1 1;member 1 1 1 by 3 1 0 2;")
                 .due(15, "member", 0, 3).due(27, "count", 8);
@@ -182,6 +183,13 @@ public final class PromisesTest {
         dueFault(0, "by 1;");
         dueFault(0, "Fund 1;");
         dueFault(3, "\n  feee 1;");
+        dueFault(0, "xund 1;");
+        dueFault(0, "funda 1;");
+        dueFault(0, "fundz 1;");
+        dueFault(4, "fund{ 1;");
+        dueFault(4, "fund` 1;");
+        dueFault(6, "fund 0:");
+        dueFault(6, "fund 9/");
         dueFault(4, "fundX 1;");
         dueFault(4, "fund");
         dueFault(6, "fund  ");
@@ -216,6 +224,7 @@ public final class PromisesTest {
         dueFault(8, "period 5;");
         dueFault(7, "fund 1;fund 1;");
         dueFault(6, "fee 1;fee 1;");
+        dueFault(13, "fund 1;fee 1;fund 1;");
         dueFault(8, "least 1;least 1;");
         dueFault(7, "till 1;till 1;");
         dueFault(11, "period 1 1;period 1 1;");
@@ -261,6 +270,9 @@ public final class PromisesTest {
                 .due(0, "count", 10).due(0, "count", 11).due(6, "count", 12).due(1, "count", 15).due(0, "count", 2)
                 .dueText("fund 0;fee 0;least 0;till 99;period 0 99;member 1 2 3;", "spell");
         t.due(0, "text").due(0, "count", 0).due(0, "count", 15);
+        // Nothing is left of any TEXT ahead.
+        of(FOUR).dueTold(4, FOUR).dueTold(4, FOUR).dueTold(1, "member 1 2 3;").due(1, "line", 0, 1).due(3, "line", 0, 3)
+                .due(-2, "line", 0, 4).dueText("fund 0;fee 0;least 0;till 99;period 0 99;member 1 2 3;", "spell");
     }
 
     static void promise5() {
@@ -432,6 +444,8 @@ public final class PromisesTest {
     static void promise21() {
         fresh().due(0, "busiest", 0).due(0, "busiest", 1).due(NONE, "busiest", 2).due(NONE, "busiest", NONE);
         of("period 7 9;").due(0, "busiest", 0).due(7, "busiest", 1);
+        of("period 7 9;member 9 20 1;").due(1, "busiest", 0).due(9, "busiest", 1);
+        of("period 7 9;member 0 8 1;member 8 8 1;").due(2, "busiest", 0).due(8, "busiest", 1);
         of(FOUR).due(3, "busiest", 0).due(12, "busiest", 1).due(435, "period", 15, 30).due(3, "busiest", 0)
                 .due(19, "busiest", 1).due(690, "period", 31, 99).due(1, "busiest", 0).due(31, "busiest", 1);
     }
@@ -495,6 +509,7 @@ public final class PromisesTest {
         for (int k = 0; k < ten.length; k++) {
             t.due(ten[k], "splits", k);
         }
+        of(members(1)).due(0, "splits", 0).due(1, "splits", 1).due(0, "splits", 2);
         of(PATH).due(0, "splits", 0).due(0, "splits", 1).due(1, "splits", 2).due(3, "splits", 3).due(1, "splits", 4)
                 .due(0, "splits", 5);
         of(FOUR).due(0, "splits", 1).due(2, "splits", 2).due(4, "splits", 3).due(1, "splits", 4).due(0, "splits", 5);
@@ -555,6 +570,7 @@ public final class PromisesTest {
     static void promise31() {
         fresh().due(NONE, "cheapest", 5, 0);
         of("member 0 0 1;").due(NONE, "cheapest", 5, 1);
+        of("channel 7 2;member 0 0 1 by 0;").due(7, "cheapest", 2, 0).due(0, "cheapest", 2, 1).due(-2, "cheapest", 1, 1);
         of(FOUR).due(8, "cheapest", 4, 0).due(4, "cheapest", 4, 1).due(-2, "cheapest", 3, 0).due(-2, "cheapest", 3, 1)
                 .due(8, "cheapest", BIG, 0).due(NONE, "cheapest", NONE, 0).due(NONE, "cheapest", 4, 2)
                 .due(NONE, "cheapest", 4, NONE).due(NONE, "cheapest", 3, 2);
@@ -591,6 +607,12 @@ public final class PromisesTest {
         // Who filed without a CLAIM is not COUNTED; who is OUT neither.
         going().due(0 + 35 + 100 + 120, "period", 15, 24).due(2, "fundOf", 4);
         going().due(1, "out", 3).due(2, "fundOf", 4);
+        // A CLAIM of 1 counts; 1 that is lacked is had by ROUND 2, of what the LAZY one leaves.
+        of("fund 3;channel 0 1;member 0 0 1 by 0;").due(0, "send").due(1, "days", 1).due(1, "file", 0).due(1, "fundOf", 4)
+                .due(1, "fundOf", 1).due(1, "fundOf", 5).due(2, "fundOf", 3).due(100, "share").due(3, "pot", 0)
+                .due(1, "needs");
+        of("fund 6;channel 0 1;member 0 0 10 by 0;member 0 0 2 by 0;").due(0, "send").due(1, "days", 1).due(1, "file", 0)
+                .due(2, "file", 1).due(1, "lazy", 0, true).due(2, "fundOf", 2).due(2, "fundOf", 1).due(4, "fundOf", 3);
         nothingInRoundOneEndsThem();
         manyRounds().due(6, "fundOf", 2).due(9, "fundOf", 1).due(3, "fundOf", 3).due(10, "fundOf", 4).due(0, "fundOf", 5);
     }
@@ -722,11 +744,25 @@ public final class PromisesTest {
         of("fee 50;channel 0 1;" + "member 0 99 99 by 0;".repeat(10)).due(0, "send").due(1, "days", 1).due(1, "file", 0)
                 .due(19799, "needs").due(2, "file", 1).due(3, "file", 2).due(4, "file", 3).due(5, "file", 4)
                 .due(98999, "needs").due(6, "file", 5).due(-2, "needs");
+        // The greatest FUND, and a CLAIM that is just LEAST.
+        PromisesTest all = of("fee 1;channel 0 1;" + "member 0 99 99 by 0;".repeat(10)).due(0, "send").due(1, "days", 1);
+        for (int i = 0; i < 10; i++) {
+            all.due(i + 1, "file", i);
+        }
+        all.due(99999, "needs");
+        of("least 9;channel 0 1;member 0 0 9 by 0;").due(0, "send").due(1, "days", 1).due(1, "file", 0).due(9, "needs");
+        besideALazyOne("least 0;", 97, 3).due(34, "needs");
+        besideALazyOne("least 1;", 97, 3).due(34, "needs");
+        // Sent 2 of 3 by a NET of 62 it would lack 1, below LEAST, for good.
+        besideALazyOne("least 2;", 90, 3).due(93, "needs");
         // ROUND 1 sends MEMBER 1 nothing, till it is sent 20 of 30 beside the LAZY one's 90.
-        of("least 20;channel 0 1;member 0 0 90 by 0;member 0 0 30 by 0;").due(0, "send").due(1, "days", 1)
-                .due(1, "file", 0).due(2, "file", 1).due(1, "lazy", 0, true).due(120, "needs");
-        of("least 10;channel 0 1;member 0 0 90 by 0;member 0 0 30 by 0;").due(0, "send").due(1, "days", 1)
-                .due(1, "file", 0).due(2, "file", 1).due(1, "lazy", 0, true).due(40, "needs");
+        besideALazyOne("least 20;", 90, 30).due(120, "needs");
+        besideALazyOne("least 10;", 90, 30).due(40, "needs");
+    }
+
+    private static PromisesTest besideALazyOne(String text, int lazyClaim, int claim) {
+        return of(text + "channel 0 1;member 0 0 " + lazyClaim + " by 0;member 0 0 " + claim + " by 0;").due(0, "send")
+                .due(1, "days", 1).due(1, "file", 0).due(2, "file", 1).due(1, "lazy", 0, true);
     }
 
     static void promise46() {
@@ -741,7 +777,7 @@ public final class PromisesTest {
         t.due(NONE, "rests", 101, 0, 0).due(NONE, "rests", NONE, 0, 0).due(NONE, "rests", 0, NONE, 0)
                 .due(NONE, "rests", 0, 1000, 0).due(NONE, "rests", 0, 0, -2).due(NONE, "rests", 101, 0, BIG);
         // Asked again behind an ACT, and behind what took it back.
-        t.due(120, "fund", 160).due(3, "rests", 80, 0, NONE).due(0, "undo");
+        t.due(2, "rests", 80, 0, NONE).due(120, "fund", 160).due(3, "rests", 80, 0, NONE).due(0, "undo");
         t.due(2, "rests", 80, 0, NONE).due(1, "lazy", 0, true).due(2, "rests", 80, 0, NONE).due(0, "count", 10);
         t.dueTold(1, "fund 5;member 0 9 10;").due(1, "rests", 80, 0, NONE).due(1, "rests", 80, 0, 0);
         // Without a FUND and without odds each set rests.
