@@ -424,6 +424,9 @@ public final class PromisesTest {
         t.due(NONE, "line", 13, 0).due(NONE, "line", NONE, 0).due(NONE, "line", 13, BIG).due(NONE, "line", LOW, BIG);
         // ACTS and a wrong TEXT leave the LINES.
         t.due(1000, "fund", 1).due(1000, "line", 0, 1).dueTold(-9, "fund ;").due(1000, "line", 0, 1);
+        for (int k = 0; k < 20; k++) {
+            t.dueTold(4, FOUR).due(1, "line", 12, 2).due(-2, "line", 12, 3);
+        }
         t.dueTold(0, "till 0008;").due(3, "line", 0, 0).due(8, "line", 0, 1).due(NONE, "line", 1, 0);
     }
 
@@ -599,7 +602,7 @@ public final class PromisesTest {
         scarce().due(82, "fundOf", 0).due(80, "fundOf", 1).due(1, "fundOf", 2).due(2, "fundOf", 3).due(3, "fundOf", 4)
                 .due(0, "fundOf", 5);
         // Of 8 nothing is left behind COSTS; the FEE is cut: 19 less 8 less 1.
-        going().due(1000, "fund", 8).due(0, "fundOf", 0).due(0, "fundOf", 2).due(3, "fundOf", 4).due(8, "fund", 7)
+        going().due(1, "fundOf", 2).due(1000, "fund", 8).due(0, "fundOf", 0).due(0, "fundOf", 2).due(3, "fundOf", 4).due(8, "fund", 7)
                 .due(0, "fundOf", 0).due(7, "fund", 19).due(10, "fundOf", 0);
         // Who is LAZY is COUNTED and has nothing; what it was sent goes on to the others.
         scarce().due(1, "lazy", 1, true).due(70, "fundOf", 1).due(2, "fundOf", 2).due(12, "fundOf", 3).due(3, "fundOf", 4)
