@@ -46,10 +46,11 @@ public final class EdgesTest {
         Run.end("all boundary cases are as the document says");
     }
 
-    /** Section 0 is all ahead of the promises but the face and the sentence of the beginning; each has its white space as single blanks. */
+    /** Section 0 is all ahead of the promises but the face and the first sentence; white space is single blanks. */
     private static void readSections(String document) {
-        String[] parts = document.replaceAll("(?s)^.*?==== I\\.", " ").replaceAll("(?s)```java.*?```", " ").replaceAll("(?s)## Not promised.*", "")
-                .replace("```text", " ").replace("```", " ").split("\n## Promise \\d+: [^\n]*\n");
+        String told = document.replaceAll("(?s)^.*?==== I\\.", " ").replaceAll("(?s)## Not promised.*", "")
+                .replaceAll("(?s)```java.*?```", " ").replace("```text", " ").replace("```", " ");
+        String[] parts = told.split("\n## Promise \\d+: [^\n]*\n");
         Run.isAbout("the document");
         if (parts.length != PROMISES + 1) {
             Run.tellWrong("it has " + (parts.length - 1) + " promises");

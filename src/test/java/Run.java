@@ -5,7 +5,7 @@ import java.util.HashMap;
 import java.util.Map;
 import java.util.function.Supplier;
 
-/** A run of calls on one object of ClassOfMany, each with the answer that is due; what is wrong is printed and counted. */
+/** A run of calls on one object of ClassOfMany, each with the answer that is due; wrong ones are printed, counted. */
 final class Run {
     static final int NONE = -1;
     static final int BIG = Integer.MAX_VALUE;

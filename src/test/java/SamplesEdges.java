@@ -122,6 +122,14 @@ final class SamplesEdges {
                 "fund 0;fee 0;least 0;till 99;period 0 99;channel 0 1;member 0 0 1 by 0;", "spell");
     }
 
+    @Says(promise = 51, value = "fund N;")
+    static void numbersWithoutZerosAhead() {
+        for (int fund : new int[] {0, 9, 10, 11, 99, 100, 999, 1000, 1001, 9999, 10000, 10001, 19999, 20000, 99999}) {
+            Run.of("fund " + fund + ";").dueText("fund " + fund + ";fee 0;least 0;till 99;period 0 99;", "spell")
+                    .dueText("next " + fund + ";", "report");
+        }
+    }
+
     @Says(promise = 51, value = {"i NONE how many bytes, 0 on: the i-th", "-2: there are not so many"})
     static void bytesOfWhatIsSpelled() {
         Run.fresh().due(41, "spell", NONE).due('f', "spell", 0).due(';', "spell", 40).due(-2, "spell", 41)

@@ -218,6 +218,8 @@ final class TermsEdges {
         Run.fault("fund 1 ^fee 2;");
         Run.fault("fund 1;^;");
         Run.fault("fund 1;^5;");
+        Run.fault(" ^5;");
+        Run.fault("fee 1; ^5;");
         Run.fault("fund 1;^by 0;");
         Run.fault("fee ^51;fee ?");
     }
@@ -310,6 +312,10 @@ final class TermsEdges {
         Run.fault("member 0 0 1;member 0 0 1;conflict 0 1^");
         Run.fault("fund" + " ".repeat(396) + "^");
         Run.fault(" ".repeat(394) + "fund 1^");
+        Run.fault(" ".repeat(388) + "member 0 0 1^");
+        Run.fault(" ".repeat(373) + "channel 0 1;member 0 0 1 by^");
+        Run.fault(" ".repeat(371) + "channel 0 1;member 0 0 1 by 0^");
+        Run.right(" ".repeat(393) + "fund 1;");
     }
 
     // ---- II
@@ -337,8 +343,8 @@ final class TermsEdges {
         Run.of(FOUR).due(10, "send").due(1, "days", 1).due(NONE, "send").due(0, "count", 7).due(10, "count", 6);
     }
 
-    @Says({"each MEMBER is sent one by the first CHANNEL of the ORDER", "by one that does not reach it, it comes back after its WAIT, and goes by "
-            + "the next one"})
+    @Says({"each MEMBER is sent one by the first CHANNEL of the ORDER",
+        "by one that does not reach it, it comes back after its WAIT, and goes by the next one"})
     static void waitsAddUp() {
         Run.of("channel 1 3;channel 10 5;channel 20 7;member 0 0 1 by 2;member 0 0 1 by 1 2;member 0 0 1 by 0;")
                 .due(15, "reachFor", 6, 0).due(8, "reachFor", 6, 1).due(3, "reachFor", 6, 2).due(31 + 11 + 1, "send");
