@@ -1057,7 +1057,7 @@ public final class ClassOfMany {
         }
 
         private void fail(int place) {
-            if (isRight()) {
+            if (fault == NONE) {
                 fault = place;
             }
         }

@@ -5,8 +5,11 @@ import java.lang.reflect.Method;
 import java.lang.reflect.Modifier;
 import java.nio.file.Files;
 import java.nio.file.Path;
+import java.util.ArrayList;
 import java.util.List;
+import java.util.Map;
 import java.util.Set;
+import java.util.TreeMap;
 import java.util.TreeSet;
 import java.util.regex.Matcher;
 import java.util.regex.Pattern;
@@ -29,6 +32,7 @@ public final class LanguageTest {
         classesInside();
         wordsLeftOut(withoutCommentsAndTexts(lines));
         methodsAreShort(lines);
+        callsStayShallow(withoutCommentsAndTexts(lines));
         System.out.println(wrong == 0 ? "the language is kept to" : wrong + " rules are broken");
         if (wrong != 0) {
             System.exit(1);
@@ -133,5 +137,46 @@ public final class LanguageTest {
                 start = -1;
             }
         }
+    }
+
+    /** Methods of one name in several classes are taken for one, so no chain of calls is missed. */
+    private static void callsStayShallow(String source) {
+        Map<String, Set<String>> called = new TreeMap<>();
+        Matcher m = Pattern.compile("(?ms)^( {4}| {8})(?! )[\\w\\[\\] ]*\\b(\\w+)\\([^;{}]*\\) \\{\\n(.*?)^\\1\\}").matcher(source);
+        while (m.find()) {
+            if (!m.group(2).matches("if|for|while|switch|[A-Z]\\w*")) {
+                called.computeIfAbsent(m.group(2), name -> new TreeSet<>()).addAll(callsIn(m.group(3)));
+            }
+        }
+        called.values().forEach(names -> names.retainAll(called.keySet()));
+        must(called.size() > 100, "11: only " + called.size() + " methods were found");
+        for (String name : called.keySet()) {
+            List<String> chain = longestChain(name, called, List.of());
+            must(chain.size() <= 8, "11: calls go deeper than eight: " + chain);
+        }
+    }
+
+    private static Set<String> callsIn(String body) {
+        Set<String> names = new TreeSet<>();
+        Matcher m = Pattern.compile("\\b(\\w+)\\(").matcher(body);
+        while (m.find()) {
+            names.add(m.group(1));
+        }
+        return names;
+    }
+
+    private static List<String> longestChain(String name, Map<String, Set<String>> called, List<String> open) {
+        List<String> chain = new ArrayList<>(open);
+        chain.add(name);
+        List<String> longest = chain;
+        for (String next : called.get(name)) {
+            if (!chain.contains(next)) {
+                List<String> longer = longestChain(next, called, chain);
+                longest = longer.size() > longest.size() ? longer : longest;
+            } else {
+                must(next.equals(name), "8: " + name + " calls " + next + ", which stands open");
+            }
+        }
+        return longest;
     }
 }
